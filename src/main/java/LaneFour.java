@@ -18,13 +18,16 @@ public final class LaneFour {
     private static final int SEEDS_AT_FIRST = 3000;
     private static final int MEDALS_OF_A_RACE = 3;
     private static final int MILLION = 1000000;
+    private static final int FIGURES_OF_A_MILLION = 6;
+    private static final int MOST_TIMES_OF_CHANCE = 18;
 
     private static final int NULL = 1, INDEX = 2, CAST = 3, STORE = 4, SIZE = 5;
 
     private static final int BAD_TIME = -5;
     private static final int BAD_LEAN = -9999;
     private static final int BAD_WORLD = -5000;
-    private static final int BAD_GET = Integer.MIN_VALUE;
+    private static final int BAD_GET = 0x80000000;
+    private static final long LEAST_LONG = 0x8000000000000000L;
 
     private final Meet meet;
     private final Water water;
@@ -38,15 +41,19 @@ public final class LaneFour {
     private int finding;
 
     public LaneFour() {
-        meet = new Meet();
-        water = new Water(meet);
-        singles = new Singles(meet, water.shape);
+        Meet newMeet = new Meet();
+        Levels newShape = new Levels();
         Text ruleText = new Text(LANES);
         Text worldText = new Text(World.MOST_BYTES);
+        Rule newRule = new Rule(ruleText);
+        World newLaws = new World(worldText);
+        meet = newMeet;
+        water = new Water(newMeet, newShape);
+        singles = new Singles(newMeet, newShape);
         texts = new Text[] {ruleText, worldText};
-        rule = new Rule(ruleText);
-        laws = new World(worldText);
-        maker = new Maker(meet, rule, laws);
+        rule = newRule;
+        laws = newLaws;
+        maker = new Maker(newMeet, newRule, newLaws);
         sheets = new Sheet[SHEETS];
         for (int s = 0; s < SHEETS; s++) {
             sheets[s] = new Sheet();
@@ -234,7 +241,8 @@ public final class LaneFour {
             return refusal(NOT);
         }
         water.survey();
-        fraction.set(singles.rightAbove(swim), singles.rightBelow());
+        singles.putRight();
+        fraction.set(singles.rights[swim], singles.rightsBelow);
         return fraction.part(what);
     }
 
@@ -246,6 +254,7 @@ public final class LaneFour {
             return NOT;
         }
         water.survey();
+        singles.putRight();
         return singles.placeOf(swim, by);
     }
 
@@ -254,7 +263,8 @@ public final class LaneFour {
             return BAD;
         }
         water.survey();
-        return medalsOf(race);
+        singles.putRight();
+        return singles.changedMedals(race);
     }
 
     // ---- rules, tenths
@@ -298,8 +308,8 @@ public final class LaneFour {
         if (what == 0) {
             return felt;
         }
-        int even = meet.tenthsInRace(race);
-        return what == 1 ? even : Tail.millionths(felt, even);
+        int round = meet.tenthsInRace(race);
+        return what == 1 ? round : chanceOfTenths(felt, round);
     }
 
     // ---- worlds
@@ -427,6 +437,7 @@ public final class LaneFour {
         water.surveyDays();
         singles.survey();
         singles.arrange();
+        singles.putRight();
         long h = 17;
         for (int what = 0; what <= 7; what++) {
             h = mix(h, count(what));
@@ -483,7 +494,7 @@ public final class LaneFour {
             h = mix(h, meet.feltInRace(race));
             h = mix(h, meet.tenthsInRace(race));
             h = mix(h, givenOf(race));
-            h = mix(h, medalsOf(race));
+            h = mix(h, singles.changedMedals(race));
         }
         return h;
     }
@@ -513,15 +524,40 @@ public final class LaneFour {
         return fraction.part(what);
     }
 
-    private int medalsOf(int race) {
-        return meet.lengths[race] > 1 ? NOT : singles.changedMedals(race);
-    }
-
     private int givenOf(int race) {
         if (rule.faultAt() != NONE) {
             return NOT;
         }
         return rule.isKeptBy(meet, race) ? 1 : 0;
+    }
+
+    /** Counted in cases out of 10 to the n, which fit into a long up to 18 times. */
+    private static int chanceOfTenths(int n, int least) {
+        if (n > MOST_TIMES_OF_CHANCE) {
+            return FULL;
+        }
+        long cases = 0;
+        long ways = 1;
+        for (int k = 0; k <= n; k++) {
+            if (k >= least) {
+                cases += ways * power(9, n - k);
+            }
+            ways = ways * (n - k) / (k + 1);
+        }
+        // one of both does nothing: the cases are out of 10 to the n, the answer is out of a million
+        cases *= power(10, FIGURES_OF_A_MILLION - n);
+        for (int i = FIGURES_OF_A_MILLION; i < n; i++) {
+            cases /= 10;
+        }
+        return (int) cases;
+    }
+
+    private static long power(long base, int times) {
+        long product = 1;
+        for (int i = 0; i < times; i++) {
+            product *= base;
+        }
+        return product;
     }
 
     // ---- tests of arguments, and refusals
@@ -567,7 +603,7 @@ public final class LaneFour {
     }
 
     private static long refusal(int answer) {
-        return Long.MIN_VALUE - answer;
+        return LEAST_LONG - answer;
     }
 
     private int found(int number) {
@@ -595,6 +631,11 @@ public final class LaneFour {
 
         long part(int what) {
             return what == 0 ? above : below;
+        }
+
+        static long commonMultiple(long a, long b) {
+            long common = commonPart(a, b);
+            return common > 0 ? a / common * b : 0;
         }
 
         /** The bound is above what longs can need: two steps of it at least halve a number. */
@@ -775,16 +816,24 @@ public final class LaneFour {
         }
 
         int tenthsInRace(int r) {
-            int even = 0;
+            int round = 0;
             for (int s = 0; s < swims; s++) {
-                for (int length = 0; length < LENGTHS; length++) {
-                    // a time that was not felt is -1, which ends in no 0
-                    if ((r == NONE || raceOf[s] == r) && timeOf(s, length) % 10 == 0) {
-                        even++;
-                    }
+                if (r == NONE || raceOf[s] == r) {
+                    round += tenthsIn(s);
                 }
             }
-            return even;
+            return round;
+        }
+
+        /** A time that was not felt is -1, which does not end in 0. */
+        private int tenthsIn(int s) {
+            int round = 0;
+            for (int length = 0; length < LENGTHS; length++) {
+                if (timeOf(s, length) % 10 == 0) {
+                    round++;
+                }
+            }
+            return round;
         }
 
         boolean isBetter(int swimmer, int other) {
@@ -830,7 +879,7 @@ public final class LaneFour {
             for (int lane = 0; lane < LANES; lane++) {
                 if (counted[lane] > 0) {
                     present++;
-                    scale = scale / Fraction.commonPart(scale, counted[lane]) * counted[lane];
+                    scale = Fraction.commonMultiple(scale, counted[lane]);
                 }
             }
             for (int lane = 0; lane < LANES; lane++) {
@@ -904,10 +953,10 @@ public final class LaneFour {
         private final long[] dealt;
         private final int[] turns;
 
-        Water(Meet itsMeet) {
+        Water(Meet itsMeet, Levels itsShape) {
             meet = itsMeet;
             plain = new Levels();
-            shape = new Levels();
+            shape = itsShape;
             has = new boolean[SWIMS];
             doubled = new int[SWIMS];
             leanOfDay = new int[DAYS];
@@ -1014,7 +1063,7 @@ public final class LaneFour {
                     at++;
                 }
             }
-            return (int) ((long) asGreat * MILLION / orders);
+            return (int) ((long) asGreat * MILLION / Math.max(1, orders));
         }
 
         private long swap(int i, int j) {
@@ -1050,6 +1099,8 @@ public final class LaneFour {
         private final int[] best;
         private final int[] row;
         private int mostPairs;
+        private final long[] rights;
+        private long rightsBelow;
 
         Singles(Meet itsMeet, Levels itsShape) {
             meet = itsMeet;
@@ -1058,6 +1109,8 @@ public final class LaneFour {
             best = new int[ALL + 1];
             row = new int[LANES];
             mostPairs = 0;
+            rights = new long[SWIMS];
+            rightsBelow = 1;
         }
 
         void survey() {
@@ -1120,34 +1173,36 @@ public final class LaneFour {
             return sum;
         }
 
-        /** One divisor for all swims, so that they compare as whole numbers. */
-        long rightBelow() {
-            return shape.present == 0 ? 1 : 4 * shape.scale * shape.present;
-        }
-
-        long rightAbove(int s) {
-            long above = meet.timeOf(s, 0) * rightBelow();
-            int itsLane = meet.laneOf[s];
-            return shape.counted[itsLane] == 0 ? above : above - shape.aboveMean(itsLane);
+        /** All rights have one divisor, so that they compare as whole numbers. */
+        void putRight() {
+            rightsBelow = shape.present == 0 ? 1 : 4 * shape.scale * shape.present;
+            for (int s = 0; s < meet.swims; s++) {
+                int itsLane = meet.laneOf[s];
+                long more = shape.counted[itsLane] == 0 ? 0 : shape.aboveMean(itsLane);
+                rights[s] = meet.isSingle(s) ? meet.timeOf(s, 0) * rightsBelow - more : 0;
+            }
         }
 
         private long slowness(int s, int by) {
-            return by == 0 ? meet.timeOf(s, 0) : rightAbove(s);
+            return by == 0 ? meet.timeOf(s, 0) : rights[s];
         }
 
         int placeOf(int s, int by) {
             long its = slowness(s, by);
-            int found = 1;
+            int quicker = 0;
             for (int other = 0; other < meet.swims; other++) {
                 if (meet.raceOf[other] == meet.raceOf[s] && meet.isSingle(other)
                         && slowness(other, by) < its) {
-                    found++;
+                    quicker++;
                 }
             }
-            return found;
+            return 1 + quicker;
         }
 
         int changedMedals(int r) {
+            if (meet.lengths[r] > 1) {
+                return NOT;
+            }
             int changed = 0;
             for (int s = 0; s < meet.swims; s++) {
                 if (meet.raceOf[s] == r && meet.isSingle(s) && hasMedal(s, 0) != hasMedal(s, 1)) {
@@ -1395,37 +1450,6 @@ public final class LaneFour {
         private int lot(int n) {
             seed = 1103515245 * seed + 12345;
             return n > 0 ? (seed >>> 16) % n : 0;
-        }
-    }
-
-    /** How likely it is that so many of so many times end in 0, by lots of ten. */
-    private static final class Tail {
-        private static final int MOST_TIMES = 18;
-        private static final int FIGURES_OF_A_MILLION = 6;
-
-        /** Counted in cases out of 10 to the n, which fit into a long up to 18 times. */
-        static int millionths(int n, int least) {
-            if (n > MOST_TIMES) {
-                return FULL;
-            }
-            long cases = 0;
-            long ways = 1;
-            for (int k = 0; k <= n; k++) {
-                if (k >= least) {
-                    cases += ways * power(9, n - k);
-                }
-                ways = ways * (n - k) / (k + 1);
-            }
-            return (int) (cases * power(10, FIGURES_OF_A_MILLION - n)
-                    / power(10, n - FIGURES_OF_A_MILLION));
-        }
-
-        private static long power(long base, int times) {
-            long product = 1;
-            for (int i = 0; i < times; i++) {
-                product *= base;
-            }
-            return product;
         }
     }
 

@@ -74,9 +74,6 @@ public final class ModelTest {
     private static final int[] ODD = {
       -1, -2, 0, 1, 4, 7, 8, 9, 10, 16, 23, 24, 48, 49, 63, 64, 255, 256, 9999, 10000,
       Integer.MAX_VALUE, Integer.MIN_VALUE};
-    private static final String[] LAWS = {
-      "p0=-15;p7=15;f=4;r=9", "p3=-0;p3=07;f=99", "r=9;r=0", "f=;", "p1=123", "p8=1", "f=-1", "r=10",
-      "p2=-", "f=3;", ";", "p0=9;q", "p4=44;p4=-45;f=00;r=5", "p0=1;p1=2;p2=3;p3=4;p4=5;p5=6;p6=7;p7=8;f=9;r=1"};
     private final Random lots;
     private final int kind;
     private final StringBuilder waiting = new StringBuilder();
@@ -93,7 +90,7 @@ public final class ModelTest {
       }
       if (lots.nextInt(24) == 0) {
         waitingText = lots.nextInt(2);
-        waiting.append(waitingText == 0 ? someRule() : LAWS[lots.nextInt(LAWS.length)]);
+        waiting.append(waitingText == 0 ? someRule() : someWorld());
         return 20;
       }
       int building = kind < 4 ? 3 : 6;
@@ -123,6 +120,35 @@ public final class ModelTest {
       }
       text.setLength(lots.nextInt(6) == 0 ? lots.nextInt(8) : 8);
       return text.toString();
+    }
+
+    private String someWorld() {
+      StringBuilder text = new StringBuilder();
+      int parts = 1 + lots.nextInt(lots.nextInt(6) == 0 ? 12 : 5);
+      for (int i = 0; i < parts; i++) {
+        text.append(i == 0 ? "" : ";");
+        int die = lots.nextInt(8);
+        String figures = lots.nextBoolean() ? "" + lots.nextInt(10) : "" + lots.nextInt(10) + lots.nextInt(10);
+        if (die == 0) {
+          text.append("r=").append(lots.nextInt(10));
+        } else if (die < 3) {
+          text.append("f=").append(figures);
+        } else {
+          text.append('p').append(lots.nextInt(8)).append(lots.nextBoolean() ? "=" : "=-").append(figures);
+        }
+      }
+      if (lots.nextInt(4) == 0) {
+        text.setCharAt(lots.nextInt(text.length()), "0789pfr=-;:/ ".charAt(lots.nextInt(13)));
+      }
+      if (lots.nextInt(8) == 0) {
+        text.append("0789pfr=-;:/ ".charAt(lots.nextInt(13)));
+      }
+      return text.toString();
+    }
+
+    private int typeOfSheet(Model model, int s) {
+      Object sheet = model.sheets[s];
+      return sheet == null || lots.nextInt(6) == 0 ? lots.nextInt(3) : model.typeOf(sheet);
     }
 
     int[] arguments(int op, Model model) {
@@ -160,9 +186,22 @@ public final class ModelTest {
         case "type": set(a, lots.nextInt(2), "01234567p=-;fr".charAt(lots.nextInt(14))); break;
         case "tenths": set(a, lots.nextInt(races + 1) - 1, lots.nextInt(3)); break;
         case "made": set(a, lengths, lots.nextInt(10), lots.nextInt(24), 1 + lots.nextInt(8), lots.nextInt()); break;
-        case "sheet": set(a, lots.nextInt(4), lots.nextInt(3), lots.nextInt(5) == 0 ? lots.nextInt(52) - 2 : lots.nextInt(6)); break;
-        case "put": set(a, lots.nextInt(4), lots.nextInt(3), lots.nextInt(6), lots.nextInt(3) == 0 ? lots.nextInt() : someTime()); break;
-        case "get": set(a, lots.nextInt(4), lots.nextInt(3), lots.nextInt(6)); break;
+        case "sheet":
+          // ints come more often than the others, so that two sheets have like types now and then
+          set(a, lots.nextInt(4), Math.min(2, lots.nextInt(5)), lots.nextInt(5) == 0 ? lots.nextInt(52) - 2 : lots.nextInt(6));
+          break;
+        case "put":
+          set(a, lots.nextInt(4), 0, lots.nextInt(6), lots.nextInt(3) == 0 ? lots.nextInt() : someTime());
+          a[1] = typeOfSheet(model, a[0]);
+          break;
+        case "get":
+          set(a, lots.nextInt(4), 0, lots.nextInt(6));
+          a[1] = typeOfSheet(model, a[0]);
+          break;
+        case "counts": set(a, lots.nextInt(8)); break;
+        case "ran": case "wipe": case "fault": set(a, lots.nextInt(2)); break;
+        case "lose": set(a, lots.nextInt(3) == 0 ? lots.nextInt(4) : 4); break;
+        case "count": set(a, lots.nextInt(9)); break;
         case "copy": set(a, lots.nextInt(4), lots.nextInt(5), lots.nextInt(4), lots.nextInt(5), lots.nextInt(5)); break;
         case "write": set(a, lots.nextInt(swims), lots.nextInt(4)); break;
         default: set(a, lots.nextInt(10));
