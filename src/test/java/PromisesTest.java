@@ -163,6 +163,9 @@ public final class PromisesTest {
       }
       due("swim", full.swim(i / 8, i % 8, i % 8), i);
     }
+    for (int i = 0; i < 64; i++) {
+      due("time not felt", full.time(i, 0, -1), -1);
+    }
     int more = full.race(1, 0);
     due("one more", full.swim(more, 0, 0), FULL);
     due("one more, bad", full.swim(more, 24, 0), BAD);
@@ -405,6 +408,9 @@ public final class PromisesTest {
     raceOf(z, 2, 0, row(0, 0, 100, 100), row(1, 1, 101, 100), row(2, 2, 100, 100), row(3, 3, 103, 100));
     raceOf(z, 2, 0, row(2, 2, 101, 100));
     due("of four", z.chance(), 125000);
+    LaneFour half = new LaneFour();
+    raceOf(half, 3, 0, row(0, 0, 100, 100, 100), row(1, 1, 100, 100, 101));
+    due("of a rise by a half", half.chance(), 500000);
     LaneFour rise = new LaneFour();
     int race = rise.race(2, 0);
     for (int lane = 0; lane < 7; lane++) {
@@ -442,6 +448,11 @@ public final class PromisesTest {
     }
     due("the least bad day", y.ran(0), 6);
     due("the least bad day", y.ran(1), 6);
+    y.time(2, 0, 106);
+    due("day 1 has more than day 6", y.ran(0), 6);
+    y.time(3, 0, 107);
+    due("day 1 alone", y.ran(0), 1);
+    due("day 1 alone", y.ran(1), 1);
     // day 0 falls, day 9 rises: days 1 to 9 are the first that have 1
     LaneFour z = new LaneFour();
     raceOf(z, 2, 0, row(0, 0, 105, 100), row(1, 1, 104, 100));
@@ -470,6 +481,16 @@ public final class PromisesTest {
 
   private static void fast() {
     promise = 15;
+    LaneFour full = fullMeet();
+    int bits = 0;
+    for (int swimmer = 0; swimmer < 24; swimmer++) {
+      long above = full.own(swimmer, 0);
+      if (above != LONG_NOT && above <= -2 * full.own(swimmer, 1)) {
+        bits |= 1 << swimmer;
+      }
+    }
+    due("fast(2) of a full meet", full.fast(2), bits);
+    due("there are some, and not all", bits != 0 && bits != (1 << 24) - 1 ? 1 : 0, 1);
     LaneFour x = fourLanes();
     due("fast(0)", x.fast(0), 1 << 1 | 1 << 2);
     due("fast(1)", x.fast(1), 1 << 1);
@@ -486,6 +507,8 @@ public final class PromisesTest {
     due("fast(0)", y.fast(0), 1 << 23);
     due("just so much", y.fast(6), 1 << 23);
     due("too much", y.fast(7), 0);
+    y.time(0, 0, 118);
+    due("the other one", y.fast(3), 1);
   }
 
   private static void twice() {
@@ -506,6 +529,9 @@ public final class PromisesTest {
     due("felt now", x.twice(2, 4), 1);
     due("felt now", x.twice(2, 5), 1);
     due("felt now", x.twice(5, 2), 0);
+    x.time(0, 0, 9999);
+    due("the first swim is the slower one", x.twice(1, 0), 2);
+    due("the first swim is the slower one", x.twice(0, 1), 1);
     due("itself", x.twice(3, 3), BAD);
     int[][] bad = {{0, 8}, {8, 0}, {-1, 0}, {0, -1}, {MOST, 0}, {0, LEAST}};
     for (int[] b : bad) {
@@ -535,6 +561,10 @@ public final class PromisesTest {
     raceOf(ring, 1, 0, row(0, 0, 100), row(1, 1, 100), row(2, 2, 100));
     raceOf(ring, 1, 1, row(0, 1, 101), row(1, 2, 101), row(2, 0, 101));
     orderIs(ring, 2, 0, 1, 2, 3, 4, 5, 6, 7);
+    LaneFour ahead = new LaneFour();
+    raceOf(ahead, 1, 0, row(0, 0, 100));
+    raceOf(ahead, 1, 0, row(0, 5, 101));
+    orderIs(ahead, 1, 0, 1, 2, 3, 4, 5, 6, 7);
     // all turned round: seven lanes each over that before it
     LaneFour turned = new LaneFour();
     for (int lane = 1; lane < 8; lane++) {
@@ -596,6 +626,10 @@ public final class PromisesTest {
       due("place(" + (3 + i) + ", 0)", x.place(3 + i, 0), byTime[i]);
       due("place(" + (3 + i) + ", 1)", x.place(3 + i, 1), byRight[i]);
     }
+    LaneFour y = new LaneFour();
+    raceOf(y, 1, 0, row(0, 0, 10), row(1, 1, 11), row(2, 2, 11));
+    due("behind the first swim", y.place(1, 0), 2);
+    due("like ones", y.place(2, 1), 2);
     raceOf(x, 1, 0, row(6, 6, 1));
     due("of its own race", x.place(3, 0), 1);
     due("of its own race", x.place(9, 1), 1);
@@ -625,6 +659,11 @@ public final class PromisesTest {
     // two like ones on place 3 by TIME, and one alone put RIGHT
     raceOf(x, 1, 0, row(3, 3, 900), row(4, 4, 901), row(1, 1, 1000), row(2, 2, 1000));
     due("like ones", x.medals(4), 1);
+    // the first swim loses its medal to the last one
+    LaneFour y = new LaneFour();
+    raceOf(y, 1, 0, row(0, 0, 1001), row(1, 1, 900), row(2, 2, 900), row(3, 3, 1002));
+    raceOf(y, 2, 0, row(0, 0, 100, 120), row(3, 3, 100, 100));
+    due("the first swim's", y.medals(0), 2);
   }
 
   private static void typing() {
@@ -735,6 +774,10 @@ public final class PromisesTest {
     due("given(-1)", x.given(-1), BAD);
     due("given", x.given(MOST), BAD);
     due("given", x.given(LEAST), BAD);
+    LaneFour z = new LaneFour();
+    raceOf(z, 1, 0, row(0, 0), row(1, 7));
+    text(z, 0, "67543210");
+    due("the first swim is not so", z.given(0), 0);
     LaneFour y = new LaneFour();
     text(y, 0, "76543210");
     int race = y.race(4, 0);
@@ -876,7 +919,7 @@ public final class PromisesTest {
   private static void madeBad() {
     LaneFour x = new LaneFour();
     int[][] bad = {{0, 0, 0, 1}, {5, 0, 0, 1}, {1, -1, 0, 1}, {1, 10, 0, 1}, {1, 0, -1, 1}, {1, 0, 24, 1},
-        {1, 0, 0, 0}, {1, 0, 0, 9}, {1, 0, 23, 2}, {1, 0, 17, 8}, {1, 0, 0, -1}, {1, 0, MOST, 8}, {1, 0, 0, MOST},
+        {1, 0, 0, 0}, {1, 0, 5, 0}, {1, 0, 0, 9}, {1, 0, 23, 2}, {1, 0, 17, 8}, {1, 0, 0, -1}, {1, 0, MOST, 8}, {1, 0, 0, MOST},
         {1, 0, LEAST, 1}, {1, 0, 23, LEAST}, {LEAST, 0, 0, 1}, {1, MOST, 0, 1}};
     for (int[] b : bad) {
       due("made(bad)", x.made(b[0], b[1], b[2], b[3], 7), BAD);
@@ -910,7 +953,9 @@ public final class PromisesTest {
     due("count(8)", x.count(8), 5);
     due("below 0", x.sheet(3, 2, LEAST), SIZE);
     due("it stays", x.get(3, 2, 47), 9);
+    x.put(3, 2, 0, 9);
     due("a new one", x.sheet(3, 2, 48), 48);
+    due("its items are 0", x.get(3, 2, 0), 0);
     due("its items are 0", x.get(3, 2, 47), 0);
     due("of another type", x.sheet(3, 1, 2), 2);
     due("its type", x.put(3, 2, 0, 1), CAST);
@@ -1085,6 +1130,10 @@ public final class PromisesTest {
     due("count", x.count(MOST), BAD);
     due("count", x.count(LEAST), BAD);
     due("count(8) after bad ones", x.count(8), 1);
+    LaneFour y = new LaneFour();
+    raceOf(y, 1, 0, row(0, 0, 5));
+    due("the first swim is a single", y.count(2), 1);
+    due("its time", y.count(7), 5);
   }
 
   /** The digest by the document's words, from what the calls answer. */
@@ -1128,8 +1177,23 @@ public final class PromisesTest {
     return h;
   }
 
+  /** As many races and swims as there may be. */
+  private static LaneFour fullMeet() {
+    LaneFour x = new LaneFour();
+    text(x, 0, "43526170");
+    text(x, 1, "p0=-9;p1=-8;p2=-9;p3=-3;p4=4;p5=2;p6=20;p7=19;f=3;r=9");
+    for (int race = 0; race < 16; race++) {
+      due("made", x.made(race % 4 + 1, 9 - race % 10, race % 20, 4, 1000 * race), race);
+    }
+    due("count(1)", x.count(1), 64);
+    return x;
+  }
+
   private static void digests() {
     promise = 35;
+    LaneFour full = fullMeet();
+    due("digest of a full meet", full.digest(), digestOf(full));
+    due("lean of day 9 is told too", full.lean(9, 9) != 0 ? 1 : 0, 1);
     LaneFour[] all = {new LaneFour(), fourLanes(), fourDays(), podium()};
     for (LaneFour x : all) {
       due("digest", x.digest(), digestOf(x));
