@@ -158,7 +158,7 @@ public final class LanguageTest {
   }
 
   private static void manyCalls(LaneFour x) {
-    for (int i = 0; i < 20; i++) {
+    for (int i = 0; i < 15; i++) {
       x.wipe(1);
       x.type(1, 'r');
       x.type(1, '=');

@@ -1158,17 +1158,20 @@ public final class PromisesTest {
     }
     h = 31 * h + x.fault(0);
     h = 31 * h + x.fault(1);
-    for (int race = 0; race < x.count(0); race++) {
+    int races = x.count(0);
+    for (int race = 0; race < races; race++) {
       h = 31 * h + x.tenths(race, 0);
       h = 31 * h + x.tenths(race, 1);
       h = 31 * h + x.given(race);
       h = 31 * h + x.medals(race);
     }
-    for (int swim = 0; swim < x.count(1); swim++) {
-      for (int k = 0; k < x.about(swim, 4); k++) {
-        int v = x.time(swim, k, -1);
-        x.time(swim, k, v);
-        h = 31 * h + v;
+    // by a sheet, as a full meet would need more than 512 calls if times were asked and put back
+    int swims = x.count(1);
+    x.sheet(3, 2, 4);
+    for (int swim = 0; swim < swims; swim++) {
+      int lengths = x.write(swim, 3);
+      for (int k = 0; k < lengths; k++) {
+        h = 31 * h + x.get(3, 2, k);
       }
     }
     for (int what = 0; what < 10; what++) {
@@ -1216,7 +1219,7 @@ public final class PromisesTest {
     x.swim(9, 0, 0);
     x.time(0, 9, 5);
     x.time(0, 0, 0);
-    x.read(3, 0);
+    x.read(1, 0);
     x.read(0, 99);
     x.seeds(0, 0);
     x.type(0, 48);
