@@ -30,6 +30,7 @@ public final class BoundsTest {
   private static final long LONG_BAD = Long.MIN_VALUE + 2, LONG_NOT = Long.MIN_VALUE + 3;
   private static final int LEAST = Integer.MIN_VALUE, MOST = Integer.MAX_VALUE;
   private static final int MOST_CALLS = 512;
+  private static final long THREW = Long.MIN_VALUE + 99;
   private static final Path DOCUMENT = Path.of("../shared/DOC.md");
 
   private static final Map<String, Method> CALLS = new HashMap<>();
@@ -152,7 +153,7 @@ public final class BoundsTest {
       return ((Number) CALLS.get(call).invoke(of.x, arguments)).longValue();
     } catch (InvocationTargetException e) {
       report(told(call, a) + " threw " + e.getCause());
-      return Long.MAX_VALUE;
+      return THREW;
     } catch (IllegalAccessException e) {
       throw new IllegalStateException(e);
     }
@@ -249,7 +250,7 @@ public final class BoundsTest {
       all.add(ask(of, "count", what));
     }
     all.add(ask(of, "digest"));
-    for (int swim = 0; swim < all.get(1); swim++) {
+    for (int swim = 0; swim < Math.min(64, all.get(1)); swim++) {
       for (int what = 0; what <= 2; what++) {
         all.add(ask(of, "about", swim, what));
       }
@@ -872,6 +873,31 @@ public final class BoundsTest {
     }
   }
 
+  private static void terms2_chanceOfTheLeastRise() {
+    sentence("Terms, part 2", "the share by which the sum of (DIFF times the place among these LANES, from 0) is as great");
+    raceOf(3, 0, row(0, 0, 100, 100, 100), row(1, 1, 100, 100, 100));
+    is(1000000, "chance");
+    does("time", 1, 2, 101);
+    areFraction(1, 2, "lane", 1, 0);
+    is(500000, "chance");
+    does("time", 0, 0, 102);
+    is(1000000, "chance");
+    // the least that a lane's DIFF can be above 0: a half in one of 16 swims
+    fresh();
+    for (int race = 0; race < 16; race++) {
+      raceOf(3, 0, row(0, 0, 100, 100, 100), row(1, 7, race == 0 ? 101 : 100, 100, 100));
+    }
+    areFraction(1, 32, "lane", 7, 0);
+    is(500000, "chance");
+    does("time", 30, 2, 101);
+    areFraction(1, 32, "lane", 0, 0);
+    is(1000000, "chance");
+    does("time", 29, 1, -1);
+    // of 15 swims now: 1/30 in lane 7 against 1/32
+    areFraction(1, 30, "lane", 7, 0);
+    is(500000, "chance");
+  }
+
   private static void terms2_chanceByPlaces() {
     sentence("Terms, part 2", "the sum of (DIFF times the place among these LANES, from 0)");
     // DIFFS 0, 5, 1, 6 by places: 0 + 5 + 2 + 18 = 25; by lanes 0, 1, 2, 7 it would be 49. As great or greater are
@@ -906,6 +932,19 @@ public final class BoundsTest {
     }
     is(0, "ran", 0);
     is(9, "ran", 1);
+    // all fall once more: what was asked before does not matter
+    for (int day = 0; day < 10; day++) {
+      does("time", 2 * day, 0, 101);
+    }
+    is(0, "ran", 1);
+    is(0, "ran", 0);
+    fresh();
+    rises(9);
+    falls(8);
+    is(9, "ran", 0);
+    does("time", 0, 0, 102);
+    is(0, "ran", 0);
+    is(0, "ran", 1);
   }
 
   private static void terms2_ranOfLikeOnes() {
@@ -1187,6 +1226,22 @@ public final class BoundsTest {
     is(7, "place", 3, 1);
   }
 
+  private static void terms3_medalsWithoutATime() {
+    sentence("Terms, part 3", "PLACE of a SWIM in a RACE of one LENGTH");
+    raceOf(1, 0, row(0, 0), row(5, 5, 1), row(6, 6, 1), row(7, 7, 1));
+    raceOf(2, 0, row(0, 0, 1, 9999), row(5, 5, 9999, 1), row(6, 6, 9999, 1), row(7, 7, 9999, 1));
+    // SHAPE -9998 and three times 9998, the mean 4999: 4999/2 less for three, which is below 0
+    for (int swim = 1; swim <= 3; swim++) {
+      areFraction(-4997, 2, "right", swim);
+      is(1, "place", swim, 0);
+      is(1, "place", swim, 1);
+    }
+    // who has no TIME has no PLACE, neither behind them nor ahead
+    refused(NOT, "place", 0, 0);
+    refused(NOT, "place", 0, 1);
+    is(0, "medals", 0);
+  }
+
   // ---- Terms, part 4
 
   private static void terms4_eightBytes() {
@@ -1273,6 +1328,12 @@ public final class BoundsTest {
 
   private static void terms4_givenAsManyAsThereAre() {
     sentence("Terms, part 4", "(the first ones of the text, as many as there are)");
+    typed(0, "76543210");
+    raceOf(1, 0, row(0, 6));
+    is(0, "given", 0);
+    does("swim", 0, 23, 7);
+    is(0, "given", 0);
+    fresh();
     typed(0, "76543210");
     does("race", 1, 0);
     is(1, "given", 0);
@@ -2789,7 +2850,7 @@ public final class BoundsTest {
     }
     h = 31 * h + ask(twin, "fault", 0);
     h = 31 * h + ask(twin, "fault", 1);
-    long races = ask(twin, "count", 0);
+    long races = Math.min(16, ask(twin, "count", 0));
     for (int race = 0; race < races; race++) {
       h = 31 * h + ask(twin, "tenths", race, 0);
       h = 31 * h + ask(twin, "tenths", race, 1);
@@ -2805,9 +2866,9 @@ public final class BoundsTest {
 
   private static long withTimes(long start, Pool twin) {
     long h = start;
-    long swims = ask(twin, "count", 1);
+    long swims = Math.min(64, ask(twin, "count", 1));
     for (int swim = 0; swim < swims; swim++) {
-      long lengths = ask(twin, "about", swim, 4);
+      long lengths = Math.min(4, ask(twin, "about", swim, 4));
       for (int length = 0; length < lengths; length++) {
         long was = ask(twin, "time", swim, length, -1);
         h = 31 * h + was;
@@ -2856,6 +2917,22 @@ public final class BoundsTest {
     is(NULL, "lose", 1);
     does("seeds", 15, 1);
     is(before, "digest");
+  }
+
+  private static void promise35_digestOfAllDays() {
+    sentence("Promise 35", "lean(0, 9); chance() (as it is told); ran() 0, 1; order() NONE, 0 to 7; fault() of texts");
+    rises(0);
+    digestIsByWords();
+    rises(9);
+    digestIsByWords();
+    falls(0);
+    falls(0);
+    digestIsByWords();
+    quicker(3, 7, 0);
+    quicker(4, 6, 1);
+    typed(0, "01");
+    typed(1, "p0");
+    digestIsByWords();
   }
 
   private static void promise35_digestOfAFullMeet() {
