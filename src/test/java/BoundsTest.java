@@ -657,6 +657,97 @@ public final class BoundsTest {
     is(0, "get", 1, 1, 0);
   }
 
+  private static void terms1_findingNull() {
+    sentence("Terms, part 1", "1 NULL: the SHEET is LOST");
+    raceOf(1, 0, row(0, 0, 5));
+    for (int s = 0; s < 4; s += 3) {
+      // LOST at first, then with no items at all, then LOST anew
+      refused(-11, "read", s, 0);
+      refused(-11, "write", 0, s);
+      is(0, "sheet", s, 2, 0);
+      is(0, "read", s, 0);
+      is(0, "write", 0, s);
+      is(1, "copy", s, 0, s, 0, 0);
+      is(0, "lose", s);
+      refused(-11, "read", s, 0);
+      refused(-11, "write", 0, s);
+      refused(-11, "copy", s, 0, s, 0, 0);
+      refused(-11, "lose", s);
+    }
+  }
+
+  private static void terms1_findingIndex() {
+    sentence("Terms, part 1", "2 INDEX: there is no such item");
+    for (int size = 0; size <= 48; size += 16) {
+      is(size, "sheet", 1, 1, size);
+      refused(-12, "put", 1, 1, size, 3);
+      refused(-12, "put", 1, 1, -1, 3);
+      refusedBy(2, LEAST, "get", 1, 1, size);
+      refusedBy(2, LEAST, "get", 1, 1, -1);
+      refused(-12, "copy", 1, 0, 1, 0, size + 1);
+      if (size > 0) {
+        is(1, "put", 1, 1, size - 1, 3);
+        is(3, "get", 1, 1, size - 1);
+      }
+      is(1, "copy", 1, 0, 1, 0, size);
+    }
+    // items that a greater row had are not there any more
+    is(1, "sheet", 1, 1, 1);
+    refusedBy(2, LEAST, "get", 1, 1, 1);
+  }
+
+  private static void terms1_findingCast() {
+    sentence("Terms, part 1", "3 CAST: it has another TYPE");
+    for (int type = 0; type < 3; type++) {
+      does("sheet", 2, type, 1);
+      for (int as = 0; as < 3; as++) {
+        if (as == type) {
+          is(1, "put", 2, as, 0, 7);
+          is(7, "get", 2, as, 0);
+        } else {
+          refused(-13, "put", 2, as, 0, 8);
+          refusedBy(3, LEAST, "get", 2, as, 0);
+        }
+      }
+      is(7, "get", 2, type, 0);
+    }
+  }
+
+  private static void terms1_findingStore() {
+    sentence("Terms, part 1", "4 STORE: unlike TYPES");
+    for (int type = 0; type < 3; type++) {
+      does("sheet", 0, type, 1);
+      does("put", 0, type, 0, 7);
+      for (int other = 0; other < 3; other++) {
+        does("sheet", 3, other, 1);
+        if (other == type) {
+          is(1, "copy", 0, 0, 3, 0, 1);
+          is(7, "get", 3, other, 0);
+        } else {
+          // also to a TYPE that would hold all of it
+          refused(-14, "copy", 0, 0, 3, 0, 1);
+          refused(-14, "copy", 3, 0, 0, 0, 0);
+          is(0, "get", 3, other, 0);
+        }
+      }
+    }
+  }
+
+  private static void terms1_findingSize() {
+    sentence("Terms, part 1", "5 SIZE: below 0.");
+    refused(-15, "sheet", 0, 0, -1);
+    refused(NULL, "lose", 0);
+    is(0, "sheet", 0, 0, 0);
+    refused(-15, "sheet", 0, 2, -1);
+    refused(-15, "sheet", 0, 2, -49);
+    refused(-15, "sheet", 0, 2, LEAST);
+    // its TYPE stayed
+    is(48, "sheet", 0, 1, 48);
+    refused(-15, "sheet", 0, 1, -1);
+    is(1, "put", 0, 1, 47, 7);
+    is(48, "lose", 0);
+  }
+
   // ---- Terms, part 2
 
   private static void terms2_diffOrNot() {
@@ -727,6 +818,18 @@ public final class BoundsTest {
     areFraction(351, 8, "lane", 7, 1);
     areFraction(-57, 8, "lane", 0, 1);
     areFraction(-49, 8, "lane", 3, 1);
+  }
+
+  private static void terms2_helpsOutward() {
+    sentence("Terms, part 2", "(TIMES OUT are those that a push makes greater: below 0 it helps outward.)");
+    typed(1, "p0=-1;p7=1;p3=-99;p4=99");
+    is(0, "made", 2, 0, 0, 8, 5);
+    int[] due = {-2, 0, 0, -198, 198, 0, 0, 2};
+    for (int lane = 0; lane < 8; lane++) {
+      areFraction(due[lane], 1, "lane", lane, 0);
+      // the mean is 0
+      areFraction(due[lane], 1, "lane", lane, 1);
+    }
   }
 
   private static void shapesAre(long... parts) {
@@ -1702,6 +1805,36 @@ public final class BoundsTest {
     lotsAre(0, LEAST, 0, 0, 0, 0);
     does("wipe", 1);
     lotsAre(0, -1, 0, 0, 0, 0);
+  }
+
+  private static void terms6_partsBetween() {
+    sentence("Terms, part 6", "parts with ; between them");
+    // as many parts as there is room for: fifteen of four bytes lack what comes behind the last ;
+    for (int part = 1; part <= 15; part++) {
+      typed(1, "r=" + part % 10);
+      is(NONE, "fault", 1);
+      is(part % 10, "world", 9);
+      is(4 * part, "type", 1, ';');
+      is(4 * part, "fault", 1);
+      is(0, "world", 9);
+    }
+    refused(FULL, "type", 1, 'r');
+    // and with the 60th byte a number of two figures
+    retyped(1, "r=1;".repeat(14) + "f=12");
+    is(NONE, "fault", 1);
+    is(12, "world", 8);
+    is(1, "world", 9);
+  }
+
+  private static void terms6_leastAndMostLot() {
+    sentence("Terms, part 6", "and a LOT of (2 RANGE and 1) less RANGE");
+    // the first LOTS of SEEDS 0 and LEAST: upper bits 0, which is 0 of any n, and 32768, which is 2 of 3
+    int[][] rows = {{0, 0, 0}, {1, 0, -1}, {9, 0, -9}, {0, LEAST, 0}, {1, LEAST, 1}};
+    for (int i = 0; i < rows.length; i++) {
+      retyped(1, "r=" + rows[i][0]);
+      is(i, "made", 1, 0, 0, 1, rows[i][1]);
+      is(3000 + rows[i][2], "about", i, 6);
+    }
   }
 
   private static void terms6_lotsByNumbers() {
