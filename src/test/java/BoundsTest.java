@@ -1225,6 +1225,25 @@ public final class BoundsTest {
     orderIs(7, 0, 7, 6, 5, 4, 3, 2, 1);
   }
 
+  private static void terms3_orderOverEachBehind() {
+    sentence("Terms, part 3", "(TWICE of each LANE over each behind it, together)");
+    // swimmer 0 has two SINGLES in each of two lanes: four pairs; 0 over 1, 2, 3 by others: three, also where
+    // another lane stands between
+    quicker(0, 7, 0);
+    quicker(0, 7, 0);
+    is(4, "twice", 7, 0);
+    quicker(1, 0, 1);
+    quicker(2, 0, 2);
+    quicker(3, 0, 3);
+    orderIs(7, 4, 5, 6, 7, 0, 1, 2, 3);
+    // 1 over 7 by one: 1 ahead of all loses 0 over 1 and has this one: as many, and the lesser row
+    quicker(4, 1, 7);
+    orderIs(7, 1, 4, 5, 6, 7, 0, 2, 3);
+    // and by one more
+    quicker(5, 1, 7);
+    orderIs(8, 1, 4, 5, 6, 7, 0, 2, 3);
+  }
+
   private static void terms3_right() {
     sentence("Terms, part 3", "more than the mean of the SHAPE's DIFFS of all LANES that have one (the TIME itself, if its LANE has none)");
     raceOf(1, 0, row(0, 0, 9999), row(1, 7, 1), row(2, 3, 500));
@@ -1540,6 +1559,26 @@ public final class BoundsTest {
     is(10000, "tenths", 0, 2);
   }
 
+  private static void terms5_asManyOrMore() {
+    sentence("Terms, part 5", "that as many of so many end in 0, or more, if each does with one tenth, each by itself");
+    raceOf(4, 0, row(0, 0), row(1, 1), row(2, 2), row(3, 3), row(4, 4));
+    // at least one of 1, 2, .. 18: all but 0.9 to that
+    int[] one = {100000, 190000, 271000, 343900, 409510, 468559, 521703, 569532, 612579, 651321, 686189, 717570, 745813,
+        771232, 794108, 814697, 833228, 849905};
+    does("time", 0, 0, 10);
+    for (int n = 1; n <= 18; n++) {
+      is(one[n - 1], "tenths", 0, 2);
+      does("time", n / 4, n % 4, 11);
+    }
+    does("time", 4, 2, -1);
+    // 1, 2, .. 18 of 18 (sums of binomials, worked out with whole numbers of any size)
+    int[] of18 = {849905, 549716, 266204, 98196, 28193, 6415, 1172, 173, 20, 2, 0, 0, 0, 0, 0, 0, 0, 0};
+    for (int k = 1; k <= 18; k++) {
+      does("time", (k - 1) / 4, (k - 1) % 4, 9990);
+      is(of18[k - 1], "tenths", 0, 2);
+    }
+  }
+
   private static void terms5_allTimesOfAFullMeet() {
     sentence("Terms, part 5", "how many there are, how many end in 0.");
     for (int race = 0; race < 8; race++) {
@@ -1627,6 +1666,31 @@ public final class BoundsTest {
       is(0, "world", 8);
       is(0, "world", 9);
     }
+  }
+
+  private static void terms6_timeOfALength() {
+    sentence("Terms, part 6", "each one's TIME of LENGTH k (from 0 on): its SEEDS, k times FADE, PUSH of its LANE more OUT, less HOME");
+    typed(1, "p0=-99;p1=99;f=99");
+    does("seeds", 0, 5000);
+    does("seeds", 1, 5000);
+    int[] due = {4901, 5198, 5099, 5396, 5099, 5000, 5297, 5198};
+    for (int lengths = 1; lengths <= 4; lengths++) {
+      is(lengths - 1, "made", lengths, 0, 0, 2, 9);
+      for (int swim = 0; swim < 2; swim++) {
+        is(lengths, "about", 2 * (lengths - 1) + swim, 5);
+        for (int k = 0; k < lengths; k++) {
+          is(due[4 * swim + k], "time", 2 * (lengths - 1) + swim, k, due[4 * swim + k]);
+        }
+      }
+    }
+    // one FADE, then none: the fourth LENGTH is as the second
+    retyped(1, "p0=-99;f=1");
+    is(4, "made", 4, 0, 0, 1, 9);
+    is(5102, "time", 8, 3, 1);
+    retyped(1, "p0=-99");
+    is(5, "made", 4, 0, 0, 1, 9);
+    is(5099, "time", 9, 3, 1);
+    is(4901, "time", 9, 2, 1);
   }
 
   private static void terms6_likeParts() {
@@ -2751,6 +2815,21 @@ public final class BoundsTest {
     is(2, "get", 0, 0, 47);
   }
 
+  private static void promise30_putRefused() {
+    sentence("Promise 30", "by write(), too): 1. BAD; NULL; CAST; INDEX.");
+    does("sheet", 1, 1, 3);
+    // all four fit, but for what was mended one by one
+    refused(BAD, "put", 0, 3, -1, 1);
+    refused(NULL, "put", 0, 2, -1, 1);
+    refused(CAST, "put", 1, 2, -1, 1);
+    refused(INDEX, "put", 1, 1, -1, 1);
+    is(1, "put", 1, 1, 0, 1);
+    refused(BAD, "put", 4, 2, 3, 1);
+    refused(CAST, "put", 1, 0, 3, 1);
+    refused(INDEX, "put", 1, 1, 3, 1);
+    is(1, "put", 1, 1, 2, 1);
+  }
+
   private static void promise31_get() {
     sentence("Promise 31", "Item i of it. BAD: the least int; so are NULL, CAST, INDEX (count() 8 tells).");
     for (int s = 0; s < 4; s++) {
@@ -3050,6 +3129,19 @@ public final class BoundsTest {
     is(NULL, "lose", 1);
     does("seeds", 15, 1);
     is(before, "digest");
+  }
+
+  private static void promise35_digestOfLanes() {
+    sentence("Promise 35", "of LANES counts(), lane() 0 to 2, above and below each (as it is told)");
+    digestIsByWords();
+    // lane after lane has a DIFF, from the last one on, so that SHAPE joins them
+    int race = raceOf(2, 0);
+    for (int i = 0; i < 8; i++) {
+      does("swim", race, i, 7 - i);
+      does("time", i, 0, 101 + i % 3);
+      does("time", i, 1, 100);
+      digestIsByWords();
+    }
   }
 
   private static void promise35_digestOfAllDays() {
