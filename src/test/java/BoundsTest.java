@@ -551,6 +551,48 @@ public final class BoundsTest {
     areFraction(0, 1, "own", 3);
   }
 
+  /** COUNTS whose least common multiple is 360360, of 58 SWIMS together. */
+  private static void terms1_fractionsOfUnlikeCounts() {
+    sentence("Terms, part 1", "FRACTIONS are told in lowest terms");
+    int[] counts = {13, 8, 11, 4, 9, 5, 7, 1};
+    int[] out = {1, 1250, 2600, 4000, 5300, 6600, 8000, 9999};
+    int[] home = {9999, 8000, 7001, 6001, 4703, 3301, 1903, 1};
+    for (int race = 0; race < 13; race++) {
+      does("race", 3, race % 10);
+      for (int lane = 0; lane < 8; lane++) {
+        if (counts[lane] > race) {
+          int swim = (int) does("swim", race, (lane * 3 + race) % 24, lane);
+          does("time", swim, 0, out[lane]);
+          does("time", swim, 1, race == 0 && lane < 7 ? home[lane] - 1 : home[lane]);
+          if (race == 0) {
+            does("time", swim, 2, lane == 0 ? 2 : out[lane] - 1);
+          }
+        }
+      }
+    }
+    raceOf(1, 0, row(0, 0, 5000), row(1, 1, 5000), row(2, 2, 5000), row(3, 3, 5000), row(4, 4, 5000), row(5, 5, 5000));
+    is(64, "count", 1);
+    // worked out by a script with whole fractions, as are the ones below; they rise, so the SHAPE is as they are
+    long[][] diffs = {{-259945, 26}, {-107999, 16}, {-96821, 22}, {-16007, 8}, {10747, 18}, {32991, 10}, {85359, 14},
+        {19995, 2}};
+    long[][] pushes = {{-55368703007L, 5765760}, {-36641819447L, 5765760}, {-23098147487L, 5765760},
+        {-9259864847L, 5765760}, {5719179233L, 5765760}, {21298519009L, 5765760}, {5347278679L, 823680},
+        {59919885793L, 5765760}};
+    for (int lane = 0; lane < 8; lane++) {
+      is(counts[lane], "counts", lane);
+      areFraction(diffs[lane][0], diffs[lane][1], "lane", lane, 0);
+      areFraction(pushes[lane][0], pushes[lane][1], "lane", lane, 1);
+      areFraction(diffs[lane][0], diffs[lane][1], "lane", lane, 2);
+    }
+    long[] rights = {113026303007L, 94299419447L, 80755747487L, 66917464847L, 51938420767L, 36359080991L};
+    for (int lane = 0; lane < 6; lane++) {
+      areFraction(rights[lane], 11531520, "right", 58 + lane);
+    }
+    areFraction(1633, 41184, "own", 12);
+    areFraction(-797, 9152, "own", 10);
+    is(6768261227675135070L, "digest");
+  }
+
   private static void terms1_fourSheets() {
     sentence("Terms, part 1", "SHEETS 0 .. 3 are LOST (at first)");
     for (int s = 0; s < 4; s++) {
@@ -830,6 +872,45 @@ public final class BoundsTest {
       // the mean is 0
       areFraction(due[lane], 1, "lane", lane, 1);
     }
+  }
+
+  /** 64 SWIMS, eight in each lane, of the greatest DIFFS that there are. */
+  private static void fullOfGreatestDiffs(boolean rising) {
+    fresh();
+    for (int race = 0; race < 8; race++) {
+      does("race", 2, race);
+      for (int lane = 0; lane < 8; lane++) {
+        int swim = (int) does("swim", race, (lane + race) % 24, lane);
+        boolean above = (lane == 7) == rising;
+        does("time", swim, 0, above ? 9999 : 1);
+        does("time", swim, 1, above ? 1 : 9999);
+      }
+    }
+  }
+
+  private static void terms2_greatestDiffs() {
+    sentence("Terms, part 2", "its DIFF less the mean of all LANES' DIFFS");
+    fullOfGreatestDiffs(true);
+    // seven lanes have -9998, one has 9998: the mean is -6 / 8 of 9998
+    for (int lane = 0; lane < 7; lane++) {
+      areFraction(-9998, 1, "lane", lane, 0);
+      areFraction(-4999, 2, "lane", lane, 1);
+      areFraction(-9998, 1, "lane", lane, 2);
+    }
+    areFraction(9998, 1, "lane", 7, 0);
+    areFraction(34993, 2, "lane", 7, 1);
+    areFraction(9998, 1, "lane", 7, 2);
+    fullOfGreatestDiffs(false);
+    // the last one falls: all are joined
+    for (int lane = 0; lane < 8; lane++) {
+      areFraction(14997, 2, "lane", lane, 2);
+    }
+    areFraction(4999, 2, "lane", 0, 1);
+    areFraction(-34993, 2, "lane", 7, 1);
+    areFraction(0, 1, "own", 13);
+    is(0, "lean", 8, 9);
+    is(-7, "lean", 0, 0);
+    is(-56, "lean", 0, 9);
   }
 
   private static void shapesAre(long... parts) {
